@@ -205,7 +205,25 @@ public final class DeliverTest {
         dueGrant("an opening of three words", 2, Craft.head(OPENING, 1, 0, 2, 0), 2);
     }
 
+    private static void spoiltTellsNoWanted(String why, int kind, int stream, int number, int wanted, int count) {
+        StreamWires x = opened();
+        x.deliver(0);
+        x.pump(1);
+        Craft.forge(x, 1, Craft.head(kind, stream, number, wanted, count));
+        CHECKS.due(why, x.deliver(1), 2);
+        CHECKS.due(why + ": still out", x.side(0, 1), 1);
+        CHECKS.due(why + ": the oldest", x.side(0, 2), 0);
+    }
+
     private static void spoiltDoesNothingElse() {
+        spoiltTellsNoWanted("no such kind", 5, 0, 0, 1, 0);
+        spoiltTellsNoWanted("no such stream", OPENING, 3, 0, 1, 0);
+        spoiltTellsNoWanted("no such number", OPENING, 0, 4, 1, 0);
+        spoiltTellsNoWanted("no such wanted", ACK, 0, 0, 5, 0);
+        spoiltTellsNoWanted("a stream of an ack", ACK, 1, 0, 1, 0);
+        spoiltTellsNoWanted("a number of an ack", ACK, 0, 1, 1, 0);
+        spoiltTellsNoWanted("a count of an end", END, 0, 0, 1, 1);
+        spoiltTellsNoWanted("too short", GRANT, 0, 0, 1, 0);
         StreamWires x = withGrant();
         Craft.forge(x, 1, Craft.head(GRANT, 0, 0, 2, 0), 0);
         CHECKS.due("two are out", x.side(0, 1), 2);

@@ -13,6 +13,9 @@ public final class FillingTest {
         cellsComeBackWhenItIsKnown();
         closeOnce();
         closedBeforeItsOpeningIsSent();
+        cellsServeAgain();
+        allCellsAtOnce();
+        moreLiesThanThereAreCells();
         CHECKS.end();
     }
 
@@ -142,5 +145,76 @@ public final class FillingTest {
         CHECKS.dueFrame("data", x, 0, 1, Craft.sealed(Craft.head(Craft.DATA, 0, 1, 0, 1), 0, 77));
         CHECKS.dueFrame("end", x, 0, 2, Craft.sealed(Craft.head(Craft.END, 0, 2, 0, 0)));
         CHECKS.dueStream("all sent", x, 0, 0, 2, 0, 9, 0, 0, 0, 0, 0, 0, 0);
+    }
+
+    private static void cellsServeAgain() {
+        StreamWires x = new StreamWires(1, 2, 3, 4, 4);
+        x.open(0, 0);
+        for (int i = 0; i < 60; i++) {
+            CHECKS.due("send " + i, x.send(0, 0, i), 1);
+            x.drain(0, 9);
+            x.deliver(0);
+            x.deliver(0);
+            CHECKS.due("receive " + i, x.receive(1, 0), 1);
+            CHECKS.due("word " + i, x.word(1), i);
+            x.drain(1, 9);
+            CHECKS.due("grant " + i, x.deliver(1), 1);
+            CHECKS.due("free " + i, x.side(0, 0), 2);
+        }
+    }
+
+    /** At side 0 all cells hold what is to be sent or what came, and each item is still the one that it was. */
+    private static void allCellsAtOnce() {
+        StreamWires x = new StreamWires(2, 5, 9, 20, 9);
+        for (int stream = 0; stream < 2; stream++) {
+            x.open(1, stream);
+            for (int i = 0; i < 5; i++) {
+                x.send(1, stream, 10 * stream + i);
+            }
+        }
+        CHECKS.due("all", x.drain(1, 9), 4);
+        for (int i = 0; i < 4; i++) {
+            CHECKS.due("taken", x.deliver(1), 1);
+        }
+        for (int i = 0; i < 10; i++) {
+            CHECKS.due("send", x.send(0, i % 2, 100 + i), 1);
+        }
+        CHECKS.due("no cell", x.send(0, 0, 1), 2);
+        for (int i = 0; i < 10; i++) {
+            CHECKS.due("receive", x.receive(0, i / 5), 1);
+            CHECKS.due("word", x.word(0), 10 * (i / 5) + i % 5);
+        }
+        CHECKS.due("grants", x.drain(0, 2), 2);
+        CHECKS.due("data", x.drain(0, 9), 2);
+        CHECKS.dueFrame("stream 0", x, 0, 2, Craft.sealed(Craft.head(Craft.DATA, 0, 2, 4, 5), 0, 100, 102, 104, 106, 108));
+        CHECKS.dueFrame("stream 1", x, 0, 3, Craft.sealed(Craft.head(Craft.DATA, 1, 3, 4, 5), 0, 101, 103, 105, 107, 109));
+    }
+
+    /** With few cells one is kept for each stream all the same; what comes in most of them is forged. */
+    private static void moreLiesThanThereAreCells() {
+        StreamWires x = new StreamWires(8, 1, 15, 4, 20);
+        x.open(1, 0);
+        x.send(1, 0, 200);
+        x.drain(1, 9);
+        x.deliver(1);
+        CHECKS.due("data of 0", x.deliver(1), 1);
+        for (int i = 0; i < 3; i++) {
+            CHECKS.due("send", x.send(0, 0, 50 + i), 1);
+        }
+        for (int stream = 1; stream < 8; stream++) {
+            x.open(0, stream);
+            x.timeout(1);
+            x.lose(1);
+            Craft.forge(x, 1, Craft.head(Craft.DATA, stream, x.side(0, 3), 0, 1), 0, 200 + stream);
+            CHECKS.due("data of " + stream, x.deliver(1), 1);
+        }
+        for (int stream = 0; stream < 8; stream++) {
+            CHECKS.due("receive of " + stream, x.receive(0, stream), 1);
+            CHECKS.due("word of " + stream, x.word(0), 200 + stream);
+        }
+        CHECKS.due("grants", x.drain(0, 8), 8);
+        CHECKS.due("data", x.pump(0), 1);
+        CHECKS.due("the first word", x.wire(0, 8, 2), 50);
+        CHECKS.due("the others wait", x.stream(0, 0, 4), 2);
     }
 }
