@@ -327,9 +327,9 @@ public final class StreamWires {
         }
 
         void copyFrom(Frame other) {
-            length = 0;
-            for (int k = 0; k < other.length; k++) {
-                put(other.wordAt(k));
+            length = Math.min(words.length, other.length);
+            for (int k = 0; k < length; k++) {
+                words[k] = other.words[k];
             }
         }
 
@@ -784,7 +784,15 @@ public final class StreamWires {
             if (stream != turn) {
                 beginTurn(stream);
             }
-            draftNext(flow, stream);
+            if (flow.openingToSend) {
+                beginNumbered(OPENING, stream, 0);
+                flow.openingToSend = false;
+            } else if (flow.toSend.size() > 0) {
+                draftData(flow, stream);
+            } else {
+                beginNumbered(END, stream, 0);
+                flow.endToSend = false;
+            }
             sendNumbered();
             countTurn();
         }
@@ -805,18 +813,6 @@ public final class StreamWires {
             turnLeft--;
             if (turnLeft <= 0) {
                 beginTurn(streamAfter(turn));
-            }
-        }
-
-        private void draftNext(Flow flow, int stream) {
-            if (flow.openingToSend) {
-                beginNumbered(OPENING, stream, 0);
-                flow.openingToSend = false;
-            } else if (flow.toSend.size() > 0) {
-                draftData(flow, stream);
-            } else {
-                beginNumbered(END, stream, 0);
-                flow.endToSend = false;
             }
         }
 
