@@ -2,12 +2,20 @@
 final class Checks {
     private int asked;
     private int wrong;
+    private int sentences;
+    private String sentence = "";
+
+    /** From here on each wrong answer is told with this sentence of the document, which it breaks. */
+    void sentence(String words) {
+        sentences++;
+        sentence = "\"" + words + "\": ";
+    }
 
     void due(String call, long got, long want) {
         asked++;
         if (got != want) {
             wrong++;
-            System.out.println(call + " answered " + got + ", due is " + want);
+            System.out.println(sentence + call + " answered " + got + ", due is " + want);
         }
     }
 
@@ -37,8 +45,18 @@ final class Checks {
         due(when + ": wire(" + side + ", " + i + ", " + want.length + ")", x.wire(side, i, want.length), 0);
     }
 
+    /** Two looks at an object (Scenes.look) that must tell the same. */
+    void dueSame(String when, int[] before, int[] behind) {
+        due(when + ": how much is told", behind.length, before.length);
+        for (int i = 0; i < Math.min(before.length, behind.length); i++) {
+            due(when + ": what is told at place " + i, behind[i], before[i]);
+        }
+    }
+
     void end() {
-        System.out.println(wrong == 0 ? "all " + asked + " answers are as due" : wrong + " of " + asked + " answers are not as due");
+        String of = sentences == 0 ? "" : " of " + sentences + " sentences";
+        System.out.println((wrong == 0 ? "all " + asked : wrong + " of " + asked) + " answers" + of + " are "
+            + (wrong == 0 ? "" : "not ") + "as due");
         if (wrong != 0) {
             System.exit(1);
         }

@@ -150,7 +150,7 @@ public final class FillingTest {
     private static void cellsServeAgain() {
         StreamWires x = new StreamWires(1, 2, 3, 4, 4);
         x.open(0, 0);
-        for (int i = 0; i < 60; i++) {
+        for (int i = 0; i < 50; i++) {
             CHECKS.due("send " + i, x.send(0, 0, i), 1);
             x.drain(0, 9);
             x.deliver(0);

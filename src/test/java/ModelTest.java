@@ -1,6 +1,9 @@
 import java.util.Random;
 
-/** Long runs of calls from fixed seeds, each answer and the state behind it compared with the model's. */
+/**
+ * Long runs of calls from fixed seeds, each answer and the state behind it compared with the model's. With the looks at
+ * the state a run has more calls than the 512 of the document; the class keeps its promises behind them all the same.
+ */
 public final class ModelTest {
     private static final int RUNS = 1500;
     private static final int CALLS = 512;

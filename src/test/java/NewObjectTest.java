@@ -5,32 +5,86 @@ public final class NewObjectTest {
     public static void main(String[] args) {
         allIsNew();
         streamsAreBroughtToLimits();
-        mostIsBroughtToLimits(0, 1);
-        mostIsBroughtToLimits(-5, 1);
-        mostIsBroughtToLimits(1, 1);
-        mostIsBroughtToLimits(16, 16);
-        mostIsBroughtToLimits(17, 16);
-        mostIsBroughtToLimits(Integer.MAX_VALUE, 16);
-        windowIsBroughtToLimits(Integer.MIN_VALUE, 1);
-        windowIsBroughtToLimits(0, 1);
-        windowIsBroughtToLimits(1, 1);
-        windowIsBroughtToLimits(15, 15);
-        windowIsBroughtToLimits(16, 15);
-        cellsAreBroughtToLimits(Integer.MIN_VALUE, 4);
-        cellsAreBroughtToLimits(3, 4);
-        cellsAreBroughtToLimits(4, 4);
-        cellsAreBroughtToLimits(5, 5);
-        cellsAreBroughtToLimits(400, 400);
-        cellsAreBroughtToLimits(401, 400);
-        wireIsBroughtToLimits(-1, 1);
-        wireIsBroughtToLimits(0, 1);
-        wireIsBroughtToLimits(20, 20);
-        wireIsBroughtToLimits(21, 20);
+        most();
+        window();
+        cells();
+        wire();
+        allAtOnce();
         keptCells();
         CHECKS.end();
     }
 
+    private static void most() {
+        CHECKS.sentence("m 1 .. 16 (each brought to these)");
+        mostIsBroughtToLimits(Integer.MIN_VALUE, 1);
+        mostIsBroughtToLimits(-5, 1);
+        mostIsBroughtToLimits(0, 1);
+        mostIsBroughtToLimits(1, 1);
+        mostIsBroughtToLimits(2, 2);
+        mostIsBroughtToLimits(15, 15);
+        mostIsBroughtToLimits(16, 16);
+        mostIsBroughtToLimits(17, 16);
+        mostIsBroughtToLimits(Integer.MAX_VALUE, 16);
+    }
+
+    private static void window() {
+        CHECKS.sentence("W 1 .. 15 (each brought to these)");
+        windowIsBroughtToLimits(Integer.MIN_VALUE, 1);
+        windowIsBroughtToLimits(-1, 1);
+        windowIsBroughtToLimits(0, 1);
+        windowIsBroughtToLimits(1, 1);
+        windowIsBroughtToLimits(2, 2);
+        windowIsBroughtToLimits(14, 14);
+        windowIsBroughtToLimits(15, 15);
+        windowIsBroughtToLimits(16, 15);
+        windowIsBroughtToLimits(Integer.MAX_VALUE, 15);
+    }
+
+    private static void cells() {
+        CHECKS.sentence("CELLS 4 .. 400 (each brought to these)");
+        cellsAreBroughtToLimits(Integer.MIN_VALUE, 4);
+        cellsAreBroughtToLimits(0, 4);
+        cellsAreBroughtToLimits(3, 4);
+        cellsAreBroughtToLimits(4, 4);
+        cellsAreBroughtToLimits(5, 5);
+        cellsAreBroughtToLimits(399, 399);
+        cellsAreBroughtToLimits(400, 400);
+        cellsAreBroughtToLimits(401, 400);
+        cellsAreBroughtToLimits(Integer.MAX_VALUE, 400);
+    }
+
+    private static void wire() {
+        CHECKS.sentence("V 1 .. 20 (each brought to these)");
+        wireIsBroughtToLimits(Integer.MIN_VALUE, 1);
+        wireIsBroughtToLimits(-1, 1);
+        wireIsBroughtToLimits(0, 1);
+        wireIsBroughtToLimits(1, 1);
+        wireIsBroughtToLimits(2, 2);
+        wireIsBroughtToLimits(19, 19);
+        wireIsBroughtToLimits(20, 20);
+        wireIsBroughtToLimits(21, 20);
+        wireIsBroughtToLimits(Integer.MAX_VALUE, 20);
+    }
+
+    /** The least and the largest object of all carry words. */
+    private static void allAtOnce() {
+        CHECKS.sentence("each brought to these");
+        for (int told : new int[] {Integer.MIN_VALUE, Integer.MAX_VALUE}) {
+            StreamWires x = new StreamWires(told, told, told, told, told);
+            int last = told < 0 ? 0 : 7;
+            CHECKS.due("cells", x.side(0, 0), told < 0 ? 4 : 400);
+            CHECKS.due("open", x.open(1, last), 1);
+            CHECKS.due("behind the last stream", x.open(1, last + 1), StreamWires.BAD);
+            CHECKS.due("credit", x.stream(1, last, 2), told < 0 ? 2 : 25);
+            CHECKS.due("send", x.send(1, last, -7), 1);
+            Scenes.settle(x);
+            CHECKS.due("receive", x.receive(0, last), 1);
+            CHECKS.due("word", x.word(0), -7);
+        }
+    }
+
     private static void allIsNew() {
+        CHECKS.sentence("all NEW, with a WEIGHT of 1, the TURN stream 0's");
         StreamWires x = new StreamWires(3, 4, 5, 60, 7);
         for (int side = 0; side < 2; side++) {
             for (int stream = 0; stream < 3; stream++) {
@@ -48,6 +102,7 @@ public final class NewObjectTest {
     }
 
     private static void streamsAreBroughtToLimits() {
+        CHECKS.sentence("STREAMS 1 .. 8 (each brought to these)");
         int[] told = {Integer.MIN_VALUE, -1, 0, 1, 2, 7, 8, 9, Integer.MAX_VALUE};
         int[] kept = {1, 1, 1, 1, 2, 7, 8, 8, 8};
         for (int i = 0; i < told.length; i++) {
@@ -89,15 +144,14 @@ public final class NewObjectTest {
         for (int i = 0; i < 20; i++) {
             x.send(0, 0, i);
         }
-        int frames = x.drain(0, 15);
-        while (x.timeout(0) > 0) {
-            frames++;
-        }
-        CHECKS.due("first frames with a wire of " + told, frames >= Math.min(room, 15), true);
+        CHECKS.due("new frames on a wire of " + told, x.drain(0, 1000), Math.min(room, 15));
+        CHECKS.due("frames once more on a wire of " + told, x.timeout(0), Math.max(0, room - 15));
         CHECKS.due("frames on a wire of " + told, x.side(0, 4), room);
+        CHECKS.due("no room on a wire of " + told, x.timeout(0), 0);
     }
 
     private static void keptCells() {
+        CHECKS.sentence("R: CELLS by 2 s, cut off, 1 at least");
         int[][] rows = {{1, 4, 2}, {1, 5, 2}, {1, 400, 200}, {2, 20, 5}, {2, 23, 5}, {8, 4, 1}, {8, 31, 1}, {8, 32, 2}, {3, 60, 10}};
         for (int[] row : rows) {
             StreamWires x = new StreamWires(row[0], 1, 1, row[1], 1);
